@@ -264,9 +264,9 @@ public final class EventCircuit {
     private int wiresReading(int signals) {
         int readers = 0;
         for (int w = 0; w < SIGNALS; w++) {
-            int read = (1 << firsts[w]) | (1 << seconds[w]);
-            if (kinds[w] == WIRE && (read & signals) != 0) {
-                readers |= 1 << w;
+            if (kinds[w] == WIRE) {
+                int read = (1 << firsts[w]) | (1 << seconds[w]);
+                readers |= (read & signals) != 0 ? 1 << w : 0;
             }
         }
         return readers;

@@ -105,9 +105,9 @@ public final class PromisesTest {
 
     private static void wireTakesEveryOperation() {
         for (int op = 0; op <= 8; op++) {
-            EventCircuit x = new EventCircuit();
-            x.wire(11, op, 3, 7);
             for (int p = 0; p < 16; p++) {
+                EventCircuit x = new EventCircuit();
+                x.wire(11, op, 3, 7);
                 x.set(3, p);
                 for (int q = 0; q < 16; q++) {
                     x.set(7, q);
@@ -400,6 +400,17 @@ public final class PromisesTest {
         due("value(2) settles with the new values", x.value(2), 13);
         due("value(3) is of the wire as it was", x.value(3), 3);
         due("value(4) has another clock", x.value(4), 0);
+        // Registers that change places by the second signals of their formulas.
+        x.register(5, EventCircuit.OR, 8, packed(7, 6));
+        x.register(6, EventCircuit.NOT, 5, packed(7, 5));
+        due("set(7, 1)", x.set(7, 1), 2);
+        due("value(5) by b as it was", x.value(5), 0);
+        due("value(6)", x.value(6), 15);
+        x.set(7, 0);
+        x.register(6, EventCircuit.XOR, 8, packed(7, 5));
+        due("set(7, 1)", x.set(7, 1), 3);
+        due("value(5) by b as it was", x.value(5), 15);
+        due("value(6) by b as it was", x.value(6), 0);
         // An input that is no clock clocks nothing, though it goes to an odd number.
         due("set(9, 1)", x.set(9, 1), 1);
     }
